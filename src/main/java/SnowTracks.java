@@ -72,32 +72,15 @@ public final class SnowTracks {
     }
 
     public int lay(int r, int i, int v) {
-        if (!rows.isNumber(r)) {
-            return BAD;
+        int answer = tellPlace(r, i);
+        if (answer == 1) {
+            rows.ints[r][i] = v;
         }
-        if (!rows.isThere(r)) {
-            return refuse(NOTHING);
-        }
-        if (!rows.hasPlace(r, i)) {
-            return refuse(BEYOND);
-        }
-        told = rows.ints[r][i];
-        rows.ints[r][i] = v;
-        return 1;
+        return answer;
     }
 
     public int at(int r, int i) {
-        if (!rows.isNumber(r)) {
-            return BAD;
-        }
-        if (!rows.isThere(r)) {
-            return refuse(NOTHING);
-        }
-        if (!rows.hasPlace(r, i)) {
-            return refuse(BEYOND);
-        }
-        told = rows.ints[r][i];
-        return 1;
+        return tellPlace(r, i);
     }
 
     public int tear(int r) {
@@ -225,11 +208,11 @@ public final class SnowTracks {
         }
         switch (kind) {
             case HEAVY:
-                return now.silentOver(i);
+                return now.silentAt(now.overs, i);
             case HARE:
-                return now.silentBeneath(i);
+                return now.silentAt(now.beneaths, i);
             case TWICE:
-                return now.tracksCrossed(i);
+                return Integer.bitCount(now.tracksCrossed(i));
             case CART:
                 return now.haresUnder(i);
             default:
@@ -658,6 +641,20 @@ public final class SnowTracks {
         return FINDING;
     }
 
+    private int tellPlace(int r, int i) {
+        if (!rows.isNumber(r)) {
+            return BAD;
+        }
+        if (!rows.isThere(r)) {
+            return refuse(NOTHING);
+        }
+        if (!rows.hasPlace(r, i)) {
+            return refuse(BEYOND);
+        }
+        told = rows.ints[r][i];
+        return 1;
+    }
+
     private static boolean has(int set, int i) {
         return (set >> i & 1) != 0;
     }
@@ -1024,7 +1021,7 @@ public final class SnowTracks {
                 case TWICE:
                     return false;
                 case CART:
-                    return isSuch(beneath, HARE);
+                    return beneath == HARE || beneath == LEVERET;
                 case LEVERET:
                     return beneath == FOOT;
                 default:
@@ -1072,52 +1069,34 @@ public final class SnowTracks {
             return wind == 1 && wentOnce && seen && fills[i] - fills[j] >= WIND_STEP;
         }
 
-        int silentOver(int i) {
+        /** In how many crossings that do not tell a track is at one end (overs or beneaths). */
+        int silentAt(int[] ends, int i) {
             int c = 0;
             for (int k = 0; k < crossings; k++) {
-                if (overs[k] == i && !tells(k)) {
+                if (ends[k] == i && !tells(k)) {
                     c++;
                 }
             }
             return c;
         }
 
-        int silentBeneath(int i) {
-            int c = 0;
-            for (int k = 0; k < crossings; k++) {
-                if (beneaths[k] == i && !tells(k)) {
-                    c++;
-                }
-            }
-            return c;
-        }
-
-        int tracksUnder(int i) {
+        /** The set of those at the other ends of crossings where a track is at one end. */
+        private int opposite(int[] ends, int[] otherEnds, int i) {
             int set = 0;
             for (int k = 0; k < crossings; k++) {
-                if (overs[k] == i) {
-                    set |= 1 << beneaths[k];
-                }
-            }
-            return set;
-        }
-
-        int tracksOver(int i) {
-            int set = 0;
-            for (int k = 0; k < crossings; k++) {
-                if (beneaths[k] == i) {
-                    set |= 1 << overs[k];
+                if (ends[k] == i) {
+                    set |= 1 << otherEnds[k];
                 }
             }
             return set;
         }
 
         int tracksCrossed(int i) {
-            return Integer.bitCount(tracksUnder(i) | tracksOver(i));
+            return opposite(overs, beneaths, i) | opposite(beneaths, overs, i);
         }
 
         int haresUnder(int i) {
-            int under = tracksUnder(i);
+            int under = opposite(overs, beneaths, i);
             int c = 0;
             for (int j = 0; j < tracks; j++) {
                 if (has(under, j) && isOfKind(j, HARE)) {
@@ -1500,7 +1479,7 @@ public final class SnowTracks {
             all = (1 << p.tracks) - 1;
             for (int i = 0; i < p.tracks; i++) {
                 alike[i] = 0;
-                int crossed = p.tracksUnder(i) | p.tracksOver(i);
+                int crossed = p.tracksCrossed(i);
                 for (int j = 0; j < p.tracks; j++) {
                     if (!has(crossed, j) && Math.abs(p.sizes[i] - p.sizes[j]) <= 1) {
                         alike[i] |= 1 << j;

@@ -211,6 +211,10 @@ public final class PromiseTests {
         lay(x, 0, MIN, MIN);
         x.mean(0);
         due("mean of least ones", x.asked(), MIN);
+        x.row(3, 1);
+        due("mean of one", x.mean(3), 1);
+        due("mean of one: asked()", x.asked(), 0);
+        x.mean(0);
         x.row(1, 0);
         found("mean of none", x, x.mean(1), NOUGHT);
         found("mean(2)", x, x.mean(2), NOTHING);
@@ -306,6 +310,8 @@ public final class PromiseTests {
     private static void passes() {
         SnowTracks x = of("f00 h11 1>0");
         x.keep(1);
+        x.keep(0);
+        x.keep(2);
         x.wind(1);
         due("pass(4)", x.pass(4), BAD);
         due("pass(-1)", x.pass(-1), BAD);
@@ -316,13 +322,15 @@ public final class PromiseTests {
         due("pass of a fault is no finding", x.findings(NOTHING), findings);
         due("pass refused: tracks", x.count(0), 2);
         due("pass refused: crossings", x.count(1), 1);
-        due("pass refused: kept", x.count(5), 1);
+        due("pass refused: kept", x.count(5), 3);
         write(x, 1, "e12 e34 c56 2>0 2>1");
         due("pass anew", x.pass(1), 3);
         due("pass anew: crossings", x.count(1), 2);
         due("pass anew: kept", x.count(5), 0);
         due("pass anew: wind stays", x.wind(0), 1);
         found("pass anew: on(1)", x, x.on(1), NOTHING);
+        found("pass anew: on(0)", x, x.on(0), NOTHING);
+        found("pass anew: on(2)", x, x.on(2), NOTHING);
     }
 
     // Promise 12
@@ -391,6 +399,12 @@ public final class PromiseTests {
         due("mark(0, 6)", x.mark(0, 6), BAD);
         due("mark(7, 1)", x.mark(7, 1), BAD);
         due("mark(-1, 1)", x.mark(-1, 1), BAD);
+        x = of("e00 c00 f00 v00 2>0 1>0 1>3 1>2 2>3");
+        due("mark: beneath crossing 0", x.mark(0, 2), 1);
+        due("mark: a leveret beneath", x.mark(3, 2), 1);
+        due("mark: a cart over track 0", x.mark(1, 4), 2);
+        due("mark: a cart over a foot", x.mark(1, 1), 1);
+        due("mark: the other hares", x.mark(3, 5), 1);
     }
 
     // Promises 15, 16
@@ -477,6 +491,10 @@ public final class PromiseTests {
         x.cross(1, 0);
         due("keep(2) over", x.keep(2), 2);
         due("count(5)", x.count(5), 2);
+        x = of("f00");
+        due("keep(1) of one track", x.keep(1), 0);
+        due("on(1) of one track", x.on(1), 0);
+        due("count(5) of one track", x.count(5), 1);
     }
 
     // Promise 21
@@ -536,6 +554,10 @@ public final class PromiseTests {
         due("first(6) of a ring", x.first(6), BAD);
         rowIs("first of none", x, 1, 1, 2, 0);
         found("nth(0, 2) of a ring", x, x.nth(0, 2), NOUGHT);
+        x = of("f00f00f00f00f00f00f00");
+        due("nth(5039, 0)", x.nth(5039, 0), 1);
+        rowIs("nth(5039, 0)", x, 0, 6, 5, 4, 3, 2, 1, 0);
+        found("nth(5040, 0)", x, x.nth(5040, 0), NOUGHT);
     }
 
     private static final String RING = "f00 f00 f00 0>1 1>0";
@@ -687,6 +709,15 @@ public final class PromiseTests {
         x.wind(1);
         due("ring with the wind", x.ring(0), 2);
         rowIs("ring with the wind", x, 0, 0, 1);
+        x = of("f00f00f00f00f00f00f00 1>0 2>1 3>2 4>3 5>4 6>5 0>6");
+        due("ring of seven", x.ring(0), 7);
+        rowIs("ring of seven", x, 0, 0, 1, 2, 3, 4, 5, 6);
+        x.snow(6);
+        due("chain of seven", x.chain(6), 7);
+        due("hide of seven", x.hide(0, 6), 1);
+        due("place of seven", x.place(6), 6);
+        due("meet of seven", x.meet(0, 6), 0);
+        due("sure of seven", x.sure(0, 6), 1);
     }
 
     // Promise 32
@@ -783,6 +814,12 @@ public final class PromiseTests {
         x = of("f00f20f40f60f80f90f50");
         due("people: many", x.people(), 5);
         due("people: many: asked()", x.asked(), 1);
+        x = of("f40f50f40f50f40f50f40");
+        due("people: one", x.people(), 1);
+        due("people: one: asked()", x.asked(), 7);
+        x = of("f40 f40 f40 0>2");
+        due("people: track 0 with another one", x.people(), 2);
+        due("people: track 0 with another one: asked()", x.asked(), 2);
     }
 
     // Promise 37
@@ -924,6 +961,10 @@ public final class PromiseTests {
         due("walks of one: the row is missing", one.walks(0, 1, 1), STATE);
         due("walks of one, BAD first", one.walks(0, 0, 1), BAD);
         due("walks of one is no finding", one.finding(), 0);
+        SnowTracks two = of("f00 f00");
+        lay(two, 0, 0, 1);
+        due("walks of two", two.walks(0, 16, 9) > 0 ? 1 : 0, 1);
+        due("walks of two: crossing(0)", two.crossing(0), 10);
     }
 
     // Promises 41, 42, 43
