@@ -37,8 +37,8 @@ public final class SnowTracks {
     /** Above every weight of all crossings together. */
     private static final int TOO_HEAVY = 1 << 28;
 
-    private final Rows rows = new Rows();
-    private final Texts texts = new Texts();
+    private final Shelf rows = new Shelf(ROWS, ROW_PLACES, 0);
+    private final Shelf texts = new Shelf(TEXTS, TEXT_BYTES, BLANK);
     private final Pass now = new Pass();
     private final Reader reader = new Reader();
     private final Pass[] kept = new Pass[KEPT];
@@ -147,8 +147,8 @@ public final class SnowTracks {
         if (!texts.hasPlace(t, i)) {
             return refuse(BEYOND);
         }
-        int was = texts.bytes[t][i];
-        texts.bytes[t][i] = (byte) v;
+        int was = texts.ints[t][i];
+        texts.ints[t][i] = (byte) v;
         return was + 1000;
     }
 
@@ -159,7 +159,7 @@ public final class SnowTracks {
         if (!texts.isThere(t)) {
             return refuse(NOTHING);
         }
-        return reader.read(texts.bytes[t], texts.sizes[t]);
+        return reader.read(texts.ints[t], texts.sizes[t]);
     }
 
     public int pass(int t) {
@@ -169,7 +169,7 @@ public final class SnowTracks {
         if (!texts.isThere(t)) {
             return refuse(NOTHING);
         }
-        if (reader.read(texts.bytes[t], texts.sizes[t]) != NONE) {
+        if (reader.read(texts.ints[t], texts.sizes[t]) != NONE) {
             return STATE;
         }
         reader.draft.wind = now.wind;
@@ -781,17 +781,22 @@ public final class SnowTracks {
         }
     }
 
-    /** Rows of ints; a size of -1 tells that one is missing. */
-    private static final class Rows {
-        final int[][] ints = new int[ROWS][ROW_PLACES];
-        final int[] sizes = new int[ROWS];
+    /** Rows or texts (of bytes, as ints); a size of -1 tells that one is missing. */
+    private static final class Shelf {
+        final int[][] ints;
+        final int[] sizes;
+        /** What stands at each place of a new one. */
+        private final int blank;
 
-        Rows() {
+        Shelf(int number, int places, int blank) {
+            ints = new int[number][places];
+            sizes = new int[number];
             Arrays.fill(sizes, -1);
+            this.blank = blank;
         }
 
         boolean isNumber(int r) {
-            return r >= 0 && r < ROWS;
+            return r >= 0 && r < sizes.length;
         }
 
         boolean isThere(int r) {
@@ -807,7 +812,7 @@ public final class SnowTracks {
         }
 
         void make(int r, int n) {
-            Arrays.fill(ints[r], 0);
+            Arrays.fill(ints[r], blank);
             sizes[r] = n;
         }
 
@@ -831,7 +836,7 @@ public final class SnowTracks {
 
         int there() {
             int c = 0;
-            for (int r = 0; r < ROWS; r++) {
+            for (int r = 0; r < sizes.length; r++) {
                 if (isThere(r)) {
                     c++;
                 }
@@ -841,58 +846,10 @@ public final class SnowTracks {
 
         long addTo(long digest) {
             long h = digest;
-            for (int r = 0; r < ROWS; r++) {
+            for (int r = 0; r < sizes.length; r++) {
                 h = 31L * h + sizes[r];
                 for (int i = 0; i < sizes[r]; i++) {
                     h = 31L * h + ints[r][i];
-                }
-            }
-            return h;
-        }
-    }
-
-    /** Texts of bytes; a size of -1 tells that one is missing. */
-    private static final class Texts {
-        final byte[][] bytes = new byte[TEXTS][TEXT_BYTES];
-        final int[] sizes = new int[TEXTS];
-
-        Texts() {
-            Arrays.fill(sizes, -1);
-        }
-
-        boolean isNumber(int t) {
-            return t >= 0 && t < TEXTS;
-        }
-
-        boolean isThere(int t) {
-            return sizes[t] >= 0;
-        }
-
-        boolean hasPlace(int t, int i) {
-            return i >= 0 && i < sizes[t];
-        }
-
-        void make(int t, int n) {
-            Arrays.fill(bytes[t], (byte) BLANK);
-            sizes[t] = n;
-        }
-
-        int there() {
-            int c = 0;
-            for (int t = 0; t < TEXTS; t++) {
-                if (isThere(t)) {
-                    c++;
-                }
-            }
-            return c;
-        }
-
-        long addTo(long digest) {
-            long h = digest;
-            for (int t = 0; t < TEXTS; t++) {
-                h = 31L * h + sizes[t];
-                for (int i = 0; i < sizes[t]; i++) {
-                    h = 31L * h + bytes[t][i];
                 }
             }
             return h;
@@ -1112,7 +1069,7 @@ public final class SnowTracks {
         final Pass draft = new Pass();
 
         /** The place of the fault (NONE: there is none, and the draft is the pass). */
-        int read(byte[] signs, int length) {
+        int read(int[] signs, int length) {
             draft.clear();
             int step;
             for (int p = 0; p < length; p += step) {
@@ -1128,7 +1085,7 @@ public final class SnowTracks {
             return NONE;
         }
 
-        private int readItem(byte[] signs, int length, int p) {
+        private int readItem(int[] signs, int length, int p) {
             int kind = kindOf(signAt(signs, length, p));
             if (kind != NONE && draft.crossings == 0 && draft.tracks < TRACKS) {
                 return readTrack(kind, signs, length, p);
@@ -1140,7 +1097,7 @@ public final class SnowTracks {
             return p;
         }
 
-        private int readTrack(int kind, byte[] signs, int length, int p) {
+        private int readTrack(int kind, int[] signs, int length, int p) {
             int size = figureOf(signAt(signs, length, p + 1));
             if (size == NONE) {
                 return p + 1;
@@ -1154,7 +1111,7 @@ public final class SnowTracks {
             return NONE;
         }
 
-        private int readCrossing(int over, byte[] signs, int length, int p) {
+        private int readCrossing(int over, int[] signs, int length, int p) {
             if (signAt(signs, length, p + 1) != OVER_SIGN) {
                 return p + 1;
             }
@@ -1166,7 +1123,7 @@ public final class SnowTracks {
             return NONE;
         }
 
-        private static int signAt(byte[] signs, int length, int p) {
+        private static int signAt(int[] signs, int length, int p) {
             return p >= 0 && p < length ? signs[p] : NO_SIGN;
         }
 
