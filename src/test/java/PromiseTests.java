@@ -214,6 +214,10 @@ public final class PromiseTests {
         x.row(3, 1);
         due("mean of one", x.mean(3), 1);
         due("mean of one: asked()", x.asked(), 0);
+        x.row(3, 40);
+        x.lay(3, 39, 81);
+        x.mean(3);
+        due("mean of forty: asked()", x.asked(), 2);
         x.mean(0);
         x.row(1, 0);
         found("mean of none", x, x.mean(1), NOUGHT);
