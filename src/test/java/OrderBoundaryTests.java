@@ -83,6 +83,10 @@ public final class OrderBoundaryTests extends Checks {
         tellsAlone("behind", line, x -> x.ahead(1, 0), 0);
         tellsAlone("ahead in a ring", RING, x -> x.ahead(0, 1), 1);
         tellsAlone("ahead in a ring, the other way", RING, x -> x.ahead(1, 0), 1);
+        Scene three = of("f09f09f00 2>1").then(x -> x.wind(1));
+        answers("two ahead by the wind: the one", three, x -> x.ahead(0, 2), 1);
+        answers("two ahead by the wind: the other one", three, x -> x.ahead(1, 2), 1);
+        answers("one by the wind, one by a crossing", of("f0-f09f00 2>0").then(x -> x.wind(1)), x -> x.ahead(0, 2), 1);
         tellsAlone("ahead by the wind in a ring", WIND_RING, x -> x.ahead(1, 0), 1);
         answers("ahead by the sixteenth crossing", of(feet(3) + times("0>1", 15) + "2>1"), x -> x.ahead(1, 2), 1);
         answers("ahead by a crossing that is gone", of(feet(2) + "1>0").then(x -> x.snow(0)), x -> x.ahead(0, 1), 0);
@@ -244,6 +248,8 @@ public final class OrderBoundaryTests extends Checks {
             asks("the chain of " + i + " in a line", of(LINE), x -> x.chain(track), i + 1, 7 - i);
         }
         asks("the longer way", of(feet(4) + "1>02>13>23>0"), x -> x.chain(3), 4, 1);
+        asks("two ahead of one are no chain", of(feet(3) + "2>02>1"), x -> x.chain(2), 2, 1);
+        asks("two behind one are no chain", of(feet(3) + "1>02>0"), x -> x.chain(0), 1, 2);
         asks("by the wind", of("f04f02f00").then(x -> x.wind(1)), x -> x.chain(2), 3, 1);
     }
 
@@ -263,6 +269,7 @@ public final class OrderBoundaryTests extends Checks {
         rowIs("its least track first, the other way", of(feet(3) + "1>22>00>1").then(x -> x.ring(0)).make(), 0, 0, 2, 1);
         rowIs("of alike ones the first", of(feet(4) + "2>33>20>11>0").then(x -> x.ring(0)).make(), 0, 0, 1);
         rowIs("of alike ones the first by its second", of(feet(3) + "2>00>21>00>1").then(x -> x.ring(0)).make(), 0, 0, 1);
+        rowIs("one more ahead of the first", of(feet(4) + "1>02>10>20>3").then(x -> x.ring(0)).make(), 0, 0, 1, 2);
         rowIs("with the wind", WIND_RING.then(x -> x.ring(0)).make(), 0, 0, 1);
         tellsAlone("when the wind falls", WIND_RING.then(x -> x.wind(0)), x -> x.ring(3), NONE);
         asks("ring tells by its row alone", RING, x -> x.ring(0), 2, 7);
@@ -283,6 +290,8 @@ public final class OrderBoundaryTests extends Checks {
         asks("those that do not tell are not wrong", of("f0-h0-0>11>0"), x -> x.wrong(), 0, 0);
         asks("those that do not tell have no bits", of("f0-h0-f0- 1>00>22>0"), x -> x.wrong(), 1, 2);
         asks("two rings of their own", of(feet(4) + "0>11>02>33>2"), x -> x.wrong(), 2, 5);
+        asks("wrong again", RING.then(x -> x.wrong()), x -> x.wrong(), 1, 1);
+        asks("wrong when the ring is gone", RING.then(x -> x.wrong()).then(x -> x.snow(1)), x -> x.wrong(), 0, 0);
         answers("wrong changes nothing", RING.then(x -> x.wrong()), x -> x.count(2), 2);
     }
 
@@ -297,6 +306,7 @@ public final class OrderBoundaryTests extends Checks {
         asks("by the wind neither", WIND_RING, x -> x.twice(), 1, 1);
         asks("when the wind falls", WIND_RING.then(x -> x.wind(0)), x -> x.twice(), 0, 0);
         asks("three of four, each with each", of(feet(4) + "0>11>00>22>00>33>01>22>11>33>12>33>2"), x -> x.twice(), 3, 7);
+        asks("twice when the ring is gone", RING.then(x -> x.twice()).then(x -> x.snow(1)), x -> x.twice(), 0, 0);
         asks("twice changes nothing", RING.then(x -> x.twice()), x -> x.track(0, 0), 1, 0);
     }
 
@@ -322,6 +332,8 @@ public final class OrderBoundaryTests extends Checks {
         tellsAlone("sixteen", of(feet(2) + times("1>0", 16)), x -> x.hide(0, 1), 16);
         tellsAlone("fifteen", of(feet(2) + times("1>0", 15)), x -> x.hide(0, 1), 15);
         tellsAlone("one in a line", of(LINE), x -> x.hide(0, 6), 1);
+        tellsAlone("one, then two", of(feet(3) + "1>02>12>1"), x -> x.hide(0, 2), 1);
+        tellsAlone("two, then one", of(feet(3) + "1>01>02>1"), x -> x.hide(0, 2), 1);
         tellsAlone("two ways", of(feet(4) + "1>02>03>13>2"), x -> x.hide(0, 3), 2);
         tellsAlone("those that do not tell", of("f0-h0-" + times("1>0", 16)), x -> x.hide(0, 1), 0);
         tellsAlone("the wind aside", of("f09f00").then(x -> x.wind(1)), x -> x.hide(0, 1), 0);
@@ -354,6 +366,7 @@ public final class OrderBoundaryTests extends Checks {
         asks("who cross", of("f50f50 0>1"), x -> x.people(), 2, 1);
         asks("who cross, the other way", of("f50f50 1>0"), x -> x.people(), 2, 1);
         asks("who cross without telling", of("w50h50 1>0"), x -> x.people(), 2, 1);
+        asks("who cross now", of("f50f50").then(x -> x.people()).then(x -> x.cross(0, 1)), x -> x.people(), 2, 1);
         asks("who no longer cross", of("f50f50 0>1").then(x -> x.snow(0)), x -> x.people(), 1, 2);
         asks("others that cross", of(feet(3) + "1>2"), x -> x.people(), 2, 2);
         asks("in a ring", RING, x -> x.people(), 2, 2);

@@ -423,6 +423,7 @@ public final class PassBoundaryTests extends Checks {
         answers("a twice one that crosses all", of("w00" + feet(6) + "0>12>00>34>00>56>0"), x -> x.mark(0, 3), 6);
         answers("a cart over no hare", of("c00e00f00 0>21>0"), x -> x.mark(0, 4), 0);
         answers("a cart over one hare often", of("c00e00" + SIXTEEN), x -> x.mark(0, 4), 1);
+        answers("a cart over the first", of("e00c00f00 1>01>2"), x -> x.mark(1, 4), 1);
         answers("a cart over six", of("c00e00v00e00v00e00v00 0>10>20>30>40>50>6"), x -> x.mark(0, 4), 6);
         answers("a leveret alone", of("v00f00c00"), x -> x.mark(0, 5), 0);
         answers("a leveret and six", of("v00e00v00e00v00e00v00"), x -> x.mark(0, 5), 6);

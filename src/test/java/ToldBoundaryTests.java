@@ -76,6 +76,7 @@ public final class ToldBoundaryTests extends Checks {
         tellsAlone("story: the first of two", s.row(0, 12, 20, 10), x -> x.story(0), 1);
         tellsAlone("story: by the claims ahead of it alone", s.row(0, 12, 21), x -> x.story(0), 1);
         tellsAlone("story: not by those behind it", s.row(0, 21, 12), x -> x.story(0), 1);
+        tellsAlone("story: by the first of the claims ahead", of(feet(3)).row(0, 1, 2, 10), x -> x.story(0), 2);
         tellsAlone("story: the same again", s.row(0, 12, 12), x -> x.story(0), 2);
         tellsAlone("story: by the wind", of("f00f02").then(x -> x.wind(1)).row(0, 1), x -> x.story(0), 0);
         tellsAlone("story: not by the wind", of("f00f01").then(x -> x.wind(1)).row(0, 1), x -> x.story(0), 1);
@@ -95,6 +96,8 @@ public final class ToldBoundaryTests extends Checks {
         asks("hold: the most, not the least", s.row(0, 12, 21, 21), x -> x.hold(0), 2, 6);
         asks("hold: the least of four and four", s.row(0, 12, 21, 12, 21, 12, 21, 12, 21), x -> x.hold(0), 4, 0x55);
         asks("hold: the least of three", of(feet(3)).row(0, 1, 12, 20), x -> x.hold(0), 2, 3);
+        asks("hold: behind another row", s.row(0, 10, 10, 10).row(1, 1, 10).then(x -> x.hold(0)), x -> x.hold(1), 1, 1);
+        asks("hold: behind wrong()", s.row(0, 1, 10).then(x -> x.wrong()), x -> x.hold(0), 1, 1);
         asks("hold: by the wind", of("f00f02").then(x -> x.wind(1)).row(0, 1, 10), x -> x.hold(0), 1, 2);
         asks("hold: not by the wind", of("f00f01").then(x -> x.wind(1)).row(0, 1, 10), x -> x.hold(0), 1, 1);
     }
