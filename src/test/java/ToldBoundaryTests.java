@@ -372,7 +372,25 @@ public final class ToldBoundaryTests extends Checks {
         }
         due("sixteen crossings", x.digest(), mix(h, 16, 3, 16, 0, 0, 0, 0, 0, 0, 0, 0, 0, 0));
         digestsOfFullRows();
+        digestsOfWhatWent();
         tellsAlone("digest changes nothing", of("f0-f0-"), y -> y.digest() == y.digest() ? 1 : 0, 1);
+    }
+
+    /** What was there and is missing again is as if it had never been there. */
+    private static void digestsOfWhatWent() {
+        SnowTracks x = new SnowTracks();
+        lay(x, 0, 1, 2);
+        x.row(5, 40);
+        x.tear(0);
+        x.tear(5);
+        due("torn rows", x.digest(), new SnowTracks().digest());
+        x = of(feet(2) + "0>1").make();
+        x.keep(1);
+        x.pass(0);
+        long h = mix(17, 2, 1, 1, 0, 0, 0, 2, 3, 0, 0, 0, NONE, 1, 0, 0, 0, NONE, 0, 1, 1, -1, -1, -1);
+        h = mix(h, -1, -1, -1, 2, 7, -7, 0, -1);
+        h = mix(h, 9, 'f', '0', '-', 'f', '0', '-', '0', '>', '1', 6, 'f', '0', '0', 'f', '0', '0', -1, 2, 'x', '>');
+        due("kept passes that are gone", x.digest(), h);
     }
 
     /** So many that the long wraps around. */
